@@ -1,0 +1,267 @@
+/** Promise 4. */
+public final class EraseTest {
+    public static void main(String[] args) {
+        needsOneSource();
+        erasesWhatHolds();
+        cascades();
+        cascadesInACircle();
+        cascadesAlongALongChain();
+        refuses();
+        refusalIsTestedAfterCascading();
+        clears();
+        clearsNotWhereRequired();
+        clearsNotWhatIsReferredTo();
+        clearedTargetWhoseReferrerIsErased();
+        severalColumnsAtOnce();
+        violatedChangesNothing();
+        Due.end("EraseTest");
+    }
+
+    /** Table 0 has the keys 1 to n in column 0, which is UNIQUE. */
+    private static TableEngine keyed(int n) {
+        TableEngine x = new TableEngine();
+        x.constrain(0, 0, 0, 0, 0);
+        for (int i = 1; i <= n; i++) {
+            x.insert(0, i, 0, 0, 6);
+        }
+        return x;
+    }
+
+    private static int eraseWhere(TableEngine x, int t, int c, int v) {
+        x.wipe();
+        x.source(t);
+        x.condition(0, c, 0, false, v);
+        return x.erase();
+    }
+
+    private static void needsOneSource() {
+        TableEngine x = new TableEngine();
+        x.insert(0, 1, 1, 1, 0);
+        Due.is("no source", x.erase(), Due.BAD);
+        x.source(0);
+        x.source(0);
+        Due.is("two sources", x.erase(), Due.BAD);
+        x.source(0);
+        Due.is("three sources", x.erase(), Due.BAD);
+        Due.is("nothing is erased", x.rows(0), 1);
+        x.wipe();
+        x.source(0);
+        Due.is("one source", x.erase(), 1);
+        Due.is("nothing is left", x.erase(), 0);
+        Due.is("the draft stays", x.wipe(), 1);
+    }
+
+    private static void erasesWhatHolds() {
+        TableEngine x = new TableEngine();
+        for (int i = 0; i < 6; i++) {
+            x.insert(1, i, i % 2, 10 * i, i == 4 ? 1 : 0);
+            x.insert(2, i, i, i, 0);
+        }
+        x.source(1);
+        x.condition(0, 1, 0, false, 0);
+        x.condition(0, 0, 2, true, 2);
+        Due.is("both conditions, NULL is not less", x.erase(), 1);
+        Due.table("the order stays", x, 1, 0, 0, 0, 1, 1, 10, 3, 1, 30, Due.NULL, 0, 40, 5, 1, 50);
+        Due.is("the same draft again", x.erase(), 0);
+        Due.is("another table", x.rows(2), 6);
+        Due.is("a row of the middle went, one is added behind", x.insert(1, 6, 6, 6, 0), 6);
+        Due.is("behind", x.value(1, 5, 0), 6);
+    }
+
+    private static void cascades() {
+        TableEngine x = keyed(3);
+        x.constrain(1, 0, 0, 0, 0);
+        x.constrain(1, 1, 3, 0, 0);
+        x.constrain(2, 2, 3, 1, 0);
+        x.insert(1, 11, 1, 0, 0);
+        x.insert(1, 12, 2, 0, 0);
+        x.insert(1, 13, 2, 0, 0);
+        x.insert(1, 14, 2, 0, 2);
+        x.insert(2, 0, 0, 13, 0);
+        x.insert(2, 1, 0, 11, 0);
+        x.insert(2, 2, 0, 12, 0);
+        x.insert(2, 3, 0, 14, 0);
+        Due.is("one, two of table 1, two of table 2", eraseWhere(x, 0, 0, 2), 5);
+        Due.table("left", x, 0, 1, Due.NULL, Due.NULL, 3, Due.NULL, Due.NULL);
+        Due.table("left", x, 1, 11, 1, 0, 14, Due.NULL, 0);
+        Due.table("left", x, 2, 1, 0, 11, 3, 0, 14);
+    }
+
+    private static void cascadesInACircle() {
+        TableEngine x = keyed(0);
+        x.constrain(0, 1, 3, 0, 0);
+        x.insert(0, 1, 1, 0, 0);
+        x.insert(0, 2, 1, 0, 0);
+        x.insert(0, 3, 2, 0, 0);
+        x.insert(0, 4, 4, 0, 0);
+        x.wipe();
+        x.source(0);
+        x.condition(0, 0, 0, false, 1);
+        x.change(1, 0, 3);
+        Due.is("1 to 3, 3 to 2, 2 to 1", eraseWhere(x, 0, 0, 3), 3);
+        Due.table("one that refers to itself stays", x, 0, 4, 4, 0);
+        Due.is("and can be erased", eraseWhere(x, 0, 0, 4), 1);
+    }
+
+    private static void cascadesAlongALongChain() {
+        // Every row refers to the next one of the table behind it; the last links stand first.
+        TableEngine x = new TableEngine();
+        for (int t = 0; t < 3; t++) {
+            x.constrain(t, 0, 0, 0, 0);
+        }
+        for (int i = 15; i >= 0; i--) {
+            for (int t = 0; t < 3; t++) {
+                x.insert(t, i, t == 2 ? i + 1 : i, 0, t == 2 && i == 15 ? 2 : 0);
+            }
+        }
+        x.constrain(0, 1, 3, 1, 0);
+        x.constrain(1, 1, 3, 2, 0);
+        x.constrain(2, 1, 3, 0, 0);
+        Due.is("the end of the chain takes all", eraseWhere(x, 2, 0, 15), 48);
+        for (int t = 0; t < 3; t++) {
+            Due.is("no row", x.rows(t), 0);
+        }
+    }
+
+    private static void refuses() {
+        TableEngine x = keyed(2);
+        x.constrain(1, 2, 2, 0, 0);
+        x.insert(1, 0, 0, 1, 0);
+        x.insert(1, 0, 0, 2, 4);
+        Due.is("referred to", eraseWhere(x, 0, 0, 1), Due.VIOLATED);
+        Due.is("it is there", x.rows(0), 2);
+        Due.is("not referred to", eraseWhere(x, 0, 0, 2), 1);
+        x.wipe();
+        x.source(1);
+        Due.is("what refers can be erased", x.erase(), 2);
+        Due.is("and then the other", eraseWhere(x, 0, 0, 1), 1);
+
+        x = keyed(0);
+        x.constrain(0, 1, 2, 0, 0);
+        x.insert(0, 1, 1, 0, 0);
+        x.insert(0, 2, 1, 0, 0);
+        Due.is("a row that stays refers", eraseWhere(x, 0, 0, 1), Due.VIOLATED);
+        x.wipe();
+        x.source(0);
+        Due.is("both are erased at once", x.erase(), 2);
+        x.insert(0, 1, 1, 0, 0);
+        Due.is("what refers to itself doesn't stay", x.erase(), 1);
+    }
+
+    private static void refusalIsTestedAfterCascading() {
+        TableEngine x = keyed(1);
+        x.constrain(1, 0, 3, 0, 0);
+        x.constrain(1, 1, 2, 0, 0);
+        x.insert(1, 1, 1, 0, 0);
+        Due.is("the row that would refuse is erased too", eraseWhere(x, 0, 0, 1), 2);
+
+        x = keyed(1);
+        x.constrain(1, 0, 0, 0, 0);
+        x.constrain(1, 1, 3, 0, 0);
+        x.constrain(2, 0, 2, 1, 0);
+        x.insert(1, 5, 1, 0, 0);
+        x.insert(2, 5, 0, 0, 0);
+        Due.is("a cascaded row is referred to", eraseWhere(x, 0, 0, 1), Due.VIOLATED);
+        Due.is("rows 0", x.rows(0), 1);
+        Due.is("rows 1", x.rows(1), 1);
+        Due.is("rows 2", x.rows(2), 1);
+    }
+
+    private static void clears() {
+        TableEngine x = keyed(3);
+        x.constrain(1, 0, 4, 0, 0);
+        x.constrain(0, 2, 4, 0, 0);
+        x.insert(0, 4, 0, 2, 2);
+        x.insert(0, 5, 0, 3, 2);
+        x.insert(1, 2, 2, 2, 0);
+        x.insert(1, 3, 2, 2, 0);
+        x.insert(1, 2, 5, 5, 0);
+        Due.is("just one row is erased", eraseWhere(x, 0, 0, 2), 1);
+        Due.table("cleared", x, 1, Due.NULL, 2, 2, 3, 2, 2, Due.NULL, 5, 5);
+        long n = Due.NULL;
+        Due.table("cleared in the same table", x, 0, 1, n, n, 3, n, n, 4, n, n, 5, n, 3);
+    }
+
+    private static void clearsNotWhereRequired() {
+        TableEngine x = keyed(2);
+        x.constrain(1, 1, 4, 0, 0);
+        x.constrain(1, 1, 1, 0, 0);
+        x.insert(1, 0, 1, 0, 0);
+        Due.is("REQUIRED", eraseWhere(x, 0, 0, 1), Due.VIOLATED);
+        Due.is("not referred to", eraseWhere(x, 0, 0, 2), 1);
+        Due.table("as before", x, 1, 0, 1, 0);
+
+        x = keyed(1);
+        x.constrain(1, 1, 4, 0, 0);
+        x.constrain(1, 1, 1, 0, 0);
+        x.constrain(1, 2, 3, 0, 0);
+        x.insert(1, 0, 1, 1, 0);
+        Due.is("REQUIRED, but the row is erased", eraseWhere(x, 0, 0, 1), 2);
+    }
+
+    private static void clearsNotWhatIsReferredTo() {
+        for (int kind = 2; kind <= 4; kind++) {
+            TableEngine x = keyed(2);
+            x.constrain(1, 0, 0, 0, 0);
+            x.constrain(1, 0, 4, 0, 0);
+            x.constrain(2, 0, kind, 1, 0);
+            x.insert(1, 1, 0, 0, 0);
+            x.insert(1, 2, 0, 0, 0);
+            x.insert(2, 2, 0, 0, 0);
+            Due.is("what would be cleared is referred to, kind " + kind, eraseWhere(x, 0, 0, 2), Due.VIOLATED);
+            Due.table("as before", x, 1, 1, 0, 0, 2, 0, 0);
+            Due.is("it isn't, kind " + kind, eraseWhere(x, 0, 0, 1), 1);
+            Due.table("cleared", x, 1, Due.NULL, 0, 0, 2, 0, 0);
+        }
+        TableEngine x = keyed(1);
+        x.constrain(1, 0, 0, 0, 0);
+        x.constrain(1, 0, 4, 0, 0);
+        x.constrain(1, 1, 4, 1, 0);
+        x.insert(1, 1, 1, 0, 0);
+        Due.is("the row itself refers to it", eraseWhere(x, 0, 0, 1), Due.VIOLATED);
+    }
+
+    private static void clearedTargetWhoseReferrerIsErased() {
+        TableEngine x = keyed(1);
+        x.constrain(1, 0, 0, 0, 0);
+        x.constrain(1, 0, 4, 0, 0);
+        x.constrain(2, 0, 2, 1, 0);
+        x.constrain(2, 1, 3, 0, 0);
+        x.insert(1, 1, 0, 0, 0);
+        x.insert(2, 1, 1, 0, 0);
+        Due.is("what refers to the cleared int is erased too", eraseWhere(x, 0, 0, 1), 2);
+        Due.table("cleared", x, 1, Due.NULL, 0, 0);
+        Due.is("erased", x.rows(2), 0);
+    }
+
+    private static void severalColumnsAtOnce() {
+        TableEngine x = keyed(2);
+        x.constrain(0, 1, 0, 0, 0);
+        x.constrain(1, 0, 4, 0, 0);
+        x.constrain(1, 1, 4, 0, 1);
+        x.constrain(1, 2, 4, 0, 0);
+        x.insert(0, 3, 9, 0, 0);
+        x.insert(1, 3, 9, 3, 0);
+        x.insert(1, 1, 9, 3, 0);
+        Due.is("one", eraseWhere(x, 0, 0, 3), 1);
+        Due.table("all of them", x, 1, Due.NULL, Due.NULL, Due.NULL, 1, Due.NULL, Due.NULL);
+    }
+
+    private static void violatedChangesNothing() {
+        TableEngine x = keyed(2);
+        x.constrain(1, 0, 4, 0, 0);
+        x.constrain(1, 1, 3, 0, 0);
+        x.constrain(2, 2, 2, 0, 0);
+        x.insert(1, 1, 2, 0, 0);
+        x.insert(1, 2, 1, 0, 0);
+        x.insert(1, 1, 7, 0, 2);
+        x.insert(2, 0, 0, 1, 0);
+        x.wipe();
+        x.source(0);
+        x.condition(0, 0, 3, false, 1);
+        Due.is("refused by table 2", x.erase(), Due.VIOLATED);
+        Due.table("nothing is erased", x, 0, 1, Due.NULL, Due.NULL, 2, Due.NULL, Due.NULL);
+        Due.table("nothing cascaded or cleared", x, 1, 1, 2, 0, 2, 1, 0, 1, Due.NULL, 0);
+        Due.table("nothing in table 2", x, 2, 0, 0, 1);
+    }
+}
