@@ -593,7 +593,6 @@ public final class TableEngine {
 
     public int run() {
         resultRows = 0;
-        resultWidth = 0;
         if (sources == 0 || outputs == 0) {
             return BAD;
         }

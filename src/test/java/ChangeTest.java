@@ -15,6 +15,8 @@ public final class ChangeTest {
         whatRefersToIt();
         withinOneTable();
         otherColumnsDoNotMatter();
+        everyPairOfColumns();
+        fullTable();
         Due.end("ChangeTest");
     }
 
@@ -186,6 +188,45 @@ public final class ChangeTest {
         Due.table("both refer to 2", x, 0, 1, 2, 0, 2, 2, 0);
         Due.is("1 becomes 2 and 2 becomes 3", x.change(0, 2, 1), 2);
         Due.table("both refer to the first", x, 0, 2, 2, 0, 3, 2, 0);
+    }
+
+    private static void everyPairOfColumns() {
+        for (int from = 0; from < 9; from++) {
+            for (int to = 0; to < 9; to++) {
+                if (from == to) {
+                    continue;
+                }
+                TableEngine x = new TableEngine();
+                x.constrain(to / 3, to % 3, 0, 0, 0);
+                x.constrain(from / 3, from % 3, 2, to / 3, to % 3);
+                x.insert(to / 3, 1, 1, 1, 7 - (1 << to % 3));
+                x.insert(from / 3, 1, 1, 1, 7 - (1 << from % 3));
+                String what = "column " + from + " to " + to;
+                x.source(to / 3);
+                Due.is(what + ": what is referred to", x.change(to % 3, 2, 1), Due.VIOLATED);
+                x.wipe();
+                x.source(from / 3);
+                Due.is(what + ": what refers", x.change(from % 3, 2, 1), Due.VIOLATED);
+            }
+        }
+    }
+
+    private static void fullTable() {
+        TableEngine x = new TableEngine();
+        for (int i = 0; i < 16; i++) {
+            x.insert(1, i, i, i, 0);
+        }
+        x.constrain(1, 1, 0, 0, 0);
+        x.source(1);
+        Due.is("16 rows", x.change(1, 2, 1), 16);
+        Due.is("16 rows, the same", x.change(1, 0, 1), Due.VIOLATED);
+        x.condition(0, 0, 0, false, 15);
+        Due.is("the last one, the same as the first", x.change(1, 0, 1), Due.VIOLATED);
+        for (int i = 0; i < 16; i++) {
+            Due.is("column 0", x.value(1, i, 0), i);
+            Due.is("column 1", x.value(1, i, 1), i + 1);
+            Due.is("column 2", x.value(1, i, 2), i);
+        }
     }
 
     private static void otherColumnsDoNotMatter() {

@@ -14,6 +14,7 @@ public final class ConstrainTest {
         takenAway();
         takenAwayBad();
         eachColumnHasItsOwn();
+        everyPairOfColumns();
         Due.end("ConstrainTest");
     }
 
@@ -186,6 +187,19 @@ public final class ConstrainTest {
         Due.is("UNIQUE stays", x.insert(0, 1, 1, 1, 0), Due.VIOLATED);
         x.constrain(2, 2, 5, 0, 0);
         Due.is("none refers", x.constrain(0, 0, 5, 0, 0), 0);
+    }
+
+    private static void everyPairOfColumns() {
+        for (int from = 0; from < 9; from++) {
+            for (int to = 0; to < 9; to++) {
+                TableEngine x = new TableEngine();
+                x.constrain(to / 3, to % 3, 0, 0, 0);
+                int answer = x.constrain(from / 3, from % 3, 2, to / 3, to % 3);
+                Due.is("column " + from + " to " + to, answer, from == to ? Due.BAD : 0);
+                answer = x.constrain(to / 3, to % 3, 5, 0, 0);
+                Due.is("column " + from + " to " + to + ", taken away", answer, from == to ? 0 : Due.BAD);
+            }
+        }
     }
 
     private static void eachColumnHasItsOwn() {

@@ -47,6 +47,12 @@ public final class DraftTest {
             Due.is("second column 6, op " + op, x.condition(0, 0, op, true, 6), Due.BAD);
             Due.is("second column least, op " + op, x.condition(0, 0, op, true, MIN), Due.BAD);
         }
+        for (int v = 0; v < 6; v++) {
+            Due.is("second column " + v, x.condition(0, 0, 0, true, v), v + 1);
+        }
+        x.wipe();
+        x.source(0);
+        x.source(1);
         for (int op = 0; op < 6; op++) {
             Due.is("op " + op, x.condition(op % 2, op / 2, op, op > 2, op > 2 ? op : MIN), op + 1);
         }
@@ -55,21 +61,19 @@ public final class DraftTest {
         Due.is("BAD before FULL", x.condition(2, 0, 0, false, 0), Due.BAD);
     }
 
-    /** Which column v stands for: of two sources with different rows just one column has the int 5. */
+    /** Which column v stands for: of three sources just that one column has the int 5. */
     private static void conditionColumns() {
         for (int v = 0; v < 9; v++) {
-            TableEngine x = new TableEngine();
-            for (int t = 0; t < 3; t++) {
-                x.insert(t, v == 3 * t ? 5 : 0, v == 3 * t + 1 ? 5 : 0, v == 3 * t + 2 ? 5 : 0, 0);
-                x.source(t);
+            for (int five = 0; five < 9; five++) {
+                TableEngine x = new TableEngine();
+                for (int t = 0; t < 3; t++) {
+                    x.insert(t, five == 3 * t ? 5 : 0, five == 3 * t + 1 ? 5 : 0, five == 3 * t + 2 ? 5 : 0, 0);
+                    x.source(t);
+                }
+                x.output(1, 0, 0);
+                x.condition(five / 3, five % 3, 0, true, v);
+                Due.result("5 in column " + five + ", compared with " + v, x, 1, v == five ? 1 : 0);
             }
-            x.insert(0, 5, 7, 7, 0);
-            x.output(1, 0, 0);
-            x.condition(0, 0, 0, false, 5);
-            x.condition(0, 1, 0, false, 7);
-            x.condition(0, 0, 0, true, v);
-            // source 0 is at its second row, where only column 0 is 5
-            Due.result("column " + v, x, 1, v == 0 || v > 2 ? 1 : 0);
         }
         TableEngine x = new TableEngine();
         x.insert(0, 1, 2, 3, 0);

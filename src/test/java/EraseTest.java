@@ -1,5 +1,7 @@
 /** Promise 4. */
 public final class EraseTest {
+    private static final long N = Due.NULL;
+
     public static void main(String[] args) {
         needsOneSource();
         erasesWhatHolds();
@@ -14,6 +16,9 @@ public final class EraseTest {
         clearedTargetWhoseReferrerIsErased();
         severalColumnsAtOnce();
         violatedChangesNothing();
+        everyPairOfColumns();
+        everyChainOfColumns();
+        fullTables();
         Due.end("EraseTest");
     }
 
@@ -61,7 +66,7 @@ public final class EraseTest {
         x.condition(0, 1, 0, false, 0);
         x.condition(0, 0, 2, true, 2);
         Due.is("both conditions, NULL is not less", x.erase(), 1);
-        Due.table("the order stays", x, 1, 0, 0, 0, 1, 1, 10, 3, 1, 30, Due.NULL, 0, 40, 5, 1, 50);
+        Due.table("the order stays", x, 1, 0, 0, 0, 1, 1, 10, 3, 1, 30, N, 0, 40, 5, 1, 50);
         Due.is("the same draft again", x.erase(), 0);
         Due.is("another table", x.rows(2), 6);
         Due.is("a row of the middle went, one is added behind", x.insert(1, 6, 6, 6, 0), 6);
@@ -82,8 +87,8 @@ public final class EraseTest {
         x.insert(2, 2, 0, 12, 0);
         x.insert(2, 3, 0, 14, 0);
         Due.is("one, two of table 1, two of table 2", eraseWhere(x, 0, 0, 2), 5);
-        Due.table("left", x, 0, 1, Due.NULL, Due.NULL, 3, Due.NULL, Due.NULL);
-        Due.table("left", x, 1, 11, 1, 0, 14, Due.NULL, 0);
+        Due.table("left", x, 0, 1, N, N, 3, N, N);
+        Due.table("left", x, 1, 11, 1, 0, 14, N, 0);
         Due.table("left", x, 2, 1, 0, 11, 3, 0, 14);
     }
 
@@ -177,9 +182,8 @@ public final class EraseTest {
         x.insert(1, 3, 2, 2, 0);
         x.insert(1, 2, 5, 5, 0);
         Due.is("just one row is erased", eraseWhere(x, 0, 0, 2), 1);
-        Due.table("cleared", x, 1, Due.NULL, 2, 2, 3, 2, 2, Due.NULL, 5, 5);
-        long n = Due.NULL;
-        Due.table("cleared in the same table", x, 0, 1, n, n, 3, n, n, 4, n, n, 5, n, 3);
+        Due.table("cleared", x, 1, N, 2, 2, 3, 2, 2, N, 5, 5);
+        Due.table("cleared in the same table", x, 0, 1, N, N, 3, N, N, 4, N, N, 5, N, 3);
     }
 
     private static void clearsNotWhereRequired() {
@@ -211,7 +215,7 @@ public final class EraseTest {
             Due.is("what would be cleared is referred to, kind " + kind, eraseWhere(x, 0, 0, 2), Due.VIOLATED);
             Due.table("as before", x, 1, 1, 0, 0, 2, 0, 0);
             Due.is("it isn't, kind " + kind, eraseWhere(x, 0, 0, 1), 1);
-            Due.table("cleared", x, 1, Due.NULL, 0, 0, 2, 0, 0);
+            Due.table("cleared", x, 1, N, 0, 0, 2, 0, 0);
         }
         TableEngine x = keyed(1);
         x.constrain(1, 0, 0, 0, 0);
@@ -230,7 +234,7 @@ public final class EraseTest {
         x.insert(1, 1, 0, 0, 0);
         x.insert(2, 1, 1, 0, 0);
         Due.is("what refers to the cleared int is erased too", eraseWhere(x, 0, 0, 1), 2);
-        Due.table("cleared", x, 1, Due.NULL, 0, 0);
+        Due.table("cleared", x, 1, N, 0, 0);
         Due.is("erased", x.rows(2), 0);
     }
 
@@ -244,7 +248,108 @@ public final class EraseTest {
         x.insert(1, 3, 9, 3, 0);
         x.insert(1, 1, 9, 3, 0);
         Due.is("one", eraseWhere(x, 0, 0, 3), 1);
-        Due.table("all of them", x, 1, Due.NULL, Due.NULL, Due.NULL, 1, Due.NULL, Due.NULL);
+        Due.table("all of them", x, 1, N, N, N, 1, N, N);
+    }
+
+    /** Inserts rows that are NULL but for the int v in that column. */
+    private static void put(TableEngine x, int column, int... ints) {
+        for (int v : ints) {
+            x.insert(column / 3, v, v, v, 7 - (1 << column % 3));
+        }
+    }
+
+    private static void refer(TableEngine x, int from, int kind, int to) {
+        x.constrain(to / 3, to % 3, 0, 0, 0);
+        Due.is("column " + from + " refers to " + to, x.constrain(from / 3, from % 3, kind, to / 3, to % 3), 0);
+    }
+
+    private static void everyPairOfColumns() {
+        int[] answers = {Due.VIOLATED, 2, 1};
+        for (int from = 0; from < 9; from++) {
+            for (int to = 0; to < 9; to++) {
+                for (int kind = 2; from != to && kind <= 4; kind++) {
+                    TableEngine x = new TableEngine();
+                    refer(x, from, kind, to);
+                    put(x, to, 1, 2);
+                    put(x, from, 1, 2);
+                    x.source(to / 3);
+                    x.condition(0, to % 3, 0, false, 2);
+                    String what = "column " + from + " to " + to + ", kind " + kind;
+                    Due.is(what, x.erase(), answers[kind - 2]);
+                    int left = x.rows(from / 3);
+                    long last = kind == 2 ? 2 : kind == 3 ? 1 : N;
+                    Due.is(what + ": the last row", x.value(from / 3, left - 1, from % 3), last);
+                }
+            }
+        }
+    }
+
+    /** What would be cleared, in any column, is referred to from any other one. */
+    private static void everyChainOfColumns() {
+        for (int i = 0; i < 9 * 9 * 9; i++) {
+            int last = i / 81;
+            int middle = i / 9 % 9;
+            int first = i % 9;
+            if (last == middle || middle == first || first == last) {
+                continue;
+            }
+            TableEngine x = new TableEngine();
+            refer(x, middle, 4, first);
+            refer(x, last, 3, middle);
+            put(x, first, 1, 2, 3);
+            put(x, middle, 1, 2);
+            put(x, last, 2);
+            x.source(first / 3);
+            x.condition(0, first % 3, 0, false, 2);
+            String what = "columns " + last + ", " + middle + ", " + first;
+            Due.is(what + ": referred to", x.erase(), Due.VIOLATED);
+            x.wipe();
+            x.source(first / 3);
+            x.condition(0, first % 3, 0, false, 1);
+            Due.is(what + ": not referred to", x.erase(), 1);
+        }
+    }
+
+    private static void fullTables() {
+        // Table 0 keys 1 to 16, table 1 refers to them; beside what refers stand the same ints, which must stay.
+        TableEngine x = keyed(16);
+        x.constrain(1, 0, 4, 0, 0);
+        x.constrain(1, 1, 4, 0, 0);
+        for (int i = 1; i <= 16; i++) {
+            x.insert(1, 17 - i, i, i, 0);
+        }
+        Due.is("the first key", eraseWhere(x, 0, 0, 1), 1);
+        Due.is("the second key", eraseWhere(x, 0, 0, 2), 1);
+        for (int i = 1; i <= 16; i++) {
+            Due.is("column 0", x.value(1, i - 1, 0), 17 - i <= 2 ? N : 17 - i);
+            Due.is("column 1", x.value(1, i - 1, 1), i <= 2 ? N : i);
+            Due.is("column 2", x.value(1, i - 1, 2), i);
+        }
+        // What is cleared stands once more behind the last row of what could refer to it.
+        x = keyed(1);
+        x.constrain(1, 1, 0, 0, 0);
+        x.constrain(1, 1, 4, 0, 0);
+        x.constrain(1, 0, 2, 1, 1);
+        x.insert(1, 1, 1, 0, 1);
+        for (int i = 2; i <= 16; i++) {
+            x.insert(1, 0, 0, i, 3);
+        }
+        Due.is("none refers to what is cleared", eraseWhere(x, 0, 0, 1), 1);
+        Due.is("cleared", x.value(1, 0, 1), N);
+        // The same for what refers in the last of 16 rows.
+        x = keyed(1);
+        x.constrain(1, 1, 0, 0, 0);
+        x.constrain(1, 1, 4, 0, 0);
+        x.constrain(2, 0, 2, 1, 1);
+        x.insert(1, 0, 1, 0, 0);
+        for (int i = 1; i <= 16; i++) {
+            x.insert(2, 1, 0, 0, i == 16 ? 0 : 1);
+        }
+        Due.is("the last of 16 rows refers", eraseWhere(x, 0, 0, 1), Due.VIOLATED);
+        x.wipe();
+        x.source(2);
+        Due.is("16 rows at once", x.erase(), 16);
+        Due.is("then none refers", eraseWhere(x, 0, 0, 1), 1);
     }
 
     private static void violatedChangesNothing() {
@@ -260,8 +365,8 @@ public final class EraseTest {
         x.source(0);
         x.condition(0, 0, 3, false, 1);
         Due.is("refused by table 2", x.erase(), Due.VIOLATED);
-        Due.table("nothing is erased", x, 0, 1, Due.NULL, Due.NULL, 2, Due.NULL, Due.NULL);
-        Due.table("nothing cascaded or cleared", x, 1, 1, 2, 0, 2, 1, 0, 1, Due.NULL, 0);
+        Due.table("nothing is erased", x, 0, 1, N, N, 2, N, N);
+        Due.table("nothing cascaded or cleared", x, 1, 1, 2, 0, 2, 1, 0, 1, N, 0);
         Due.table("nothing in table 2", x, 2, 0, 0, 1);
     }
 }
