@@ -426,6 +426,7 @@ final class Model {
     }
 
     long value(int t, int i, int c) {
-        return in(t, 3) && in(c, 3) && in(i, tables.rows.get(t).size()) ? shown(tables.rows.get(t).get(i)[c]) : Due.NULL;
+        boolean isThere = in(t, 3) && in(c, 3) && in(i, tables.rows.get(t).size());
+        return isThere ? shown(tables.rows.get(t).get(i)[c]) : Due.NULL;
     }
 }
