@@ -5,6 +5,7 @@ final class Due {
 
     private static int asked = 0;
     private static int wrong = 0;
+    private static String about = "";
 
     private Due() {
     }
@@ -13,7 +14,24 @@ final class Due {
         asked++;
         if (got != want) {
             wrong++;
-            System.out.println(what + ": answered " + got + ", due is " + want);
+            System.out.println(about + what + ": answered " + got + ", due is " + want);
+        }
+    }
+
+    /** The answers asked from here on are told with these words before them. */
+    static void about(String words) {
+        about = words;
+    }
+
+    static int asked() {
+        return asked;
+    }
+
+    static void is(String what, String got, String want) {
+        asked++;
+        if (!got.equals(want)) {
+            wrong++;
+            System.out.println(about + what + ": there is " + got + ", due is " + want);
         }
     }
 

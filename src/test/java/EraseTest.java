@@ -22,23 +22,6 @@ public final class EraseTest {
         Due.end("EraseTest");
     }
 
-    /** Table 0 has the keys 1 to n in column 0, which is UNIQUE. */
-    private static TableEngine keyed(int n) {
-        TableEngine x = new TableEngine();
-        x.constrain(0, 0, 0, 0, 0);
-        for (int i = 1; i <= n; i++) {
-            x.insert(0, i, 0, 0, 6);
-        }
-        return x;
-    }
-
-    private static int eraseWhere(TableEngine x, int t, int c, int v) {
-        x.wipe();
-        x.source(t);
-        x.condition(0, c, 0, false, v);
-        return x.erase();
-    }
-
     private static void needsOneSource() {
         TableEngine x = new TableEngine();
         x.insert(0, 1, 1, 1, 0);
@@ -74,7 +57,7 @@ public final class EraseTest {
     }
 
     private static void cascades() {
-        TableEngine x = keyed(3);
+        TableEngine x = Made.keyed(3);
         x.constrain(1, 0, 0, 0, 0);
         x.constrain(1, 1, 3, 0, 0);
         x.constrain(2, 2, 3, 1, 0);
@@ -86,14 +69,14 @@ public final class EraseTest {
         x.insert(2, 1, 0, 11, 0);
         x.insert(2, 2, 0, 12, 0);
         x.insert(2, 3, 0, 14, 0);
-        Due.is("one, two of table 1, two of table 2", eraseWhere(x, 0, 0, 2), 5);
+        Due.is("one, two of table 1, two of table 2", Made.eraseWhere(x, 0, 0, 2), 5);
         Due.table("left", x, 0, 1, N, N, 3, N, N);
         Due.table("left", x, 1, 11, 1, 0, 14, N, 0);
         Due.table("left", x, 2, 1, 0, 11, 3, 0, 14);
     }
 
     private static void cascadesInACircle() {
-        TableEngine x = keyed(0);
+        TableEngine x = Made.keyed(0);
         x.constrain(0, 1, 3, 0, 0);
         x.insert(0, 1, 1, 0, 0);
         x.insert(0, 2, 1, 0, 0);
@@ -103,9 +86,9 @@ public final class EraseTest {
         x.source(0);
         x.condition(0, 0, 0, false, 1);
         x.change(1, 0, 3);
-        Due.is("1 to 3, 3 to 2, 2 to 1", eraseWhere(x, 0, 0, 3), 3);
+        Due.is("1 to 3, 3 to 2, 2 to 1", Made.eraseWhere(x, 0, 0, 3), 3);
         Due.table("one that refers to itself stays", x, 0, 4, 4, 0);
-        Due.is("and can be erased", eraseWhere(x, 0, 0, 4), 1);
+        Due.is("and can be erased", Made.eraseWhere(x, 0, 0, 4), 1);
     }
 
     private static void cascadesAlongALongChain() {
@@ -122,30 +105,30 @@ public final class EraseTest {
         x.constrain(0, 1, 3, 1, 0);
         x.constrain(1, 1, 3, 2, 0);
         x.constrain(2, 1, 3, 0, 0);
-        Due.is("the end of the chain takes all", eraseWhere(x, 2, 0, 15), 48);
+        Due.is("the end of the chain takes all", Made.eraseWhere(x, 2, 0, 15), 48);
         for (int t = 0; t < 3; t++) {
             Due.is("no row", x.rows(t), 0);
         }
     }
 
     private static void refuses() {
-        TableEngine x = keyed(2);
+        TableEngine x = Made.keyed(2);
         x.constrain(1, 2, 2, 0, 0);
         x.insert(1, 0, 0, 1, 0);
         x.insert(1, 0, 0, 2, 4);
-        Due.is("referred to", eraseWhere(x, 0, 0, 1), Due.VIOLATED);
+        Due.is("referred to", Made.eraseWhere(x, 0, 0, 1), Due.VIOLATED);
         Due.is("it is there", x.rows(0), 2);
-        Due.is("not referred to", eraseWhere(x, 0, 0, 2), 1);
+        Due.is("not referred to", Made.eraseWhere(x, 0, 0, 2), 1);
         x.wipe();
         x.source(1);
         Due.is("what refers can be erased", x.erase(), 2);
-        Due.is("and then the other", eraseWhere(x, 0, 0, 1), 1);
+        Due.is("and then the other", Made.eraseWhere(x, 0, 0, 1), 1);
 
-        x = keyed(0);
+        x = Made.keyed(0);
         x.constrain(0, 1, 2, 0, 0);
         x.insert(0, 1, 1, 0, 0);
         x.insert(0, 2, 1, 0, 0);
-        Due.is("a row that stays refers", eraseWhere(x, 0, 0, 1), Due.VIOLATED);
+        Due.is("a row that stays refers", Made.eraseWhere(x, 0, 0, 1), Due.VIOLATED);
         x.wipe();
         x.source(0);
         Due.is("both are erased at once", x.erase(), 2);
@@ -154,26 +137,26 @@ public final class EraseTest {
     }
 
     private static void refusalIsTestedAfterCascading() {
-        TableEngine x = keyed(1);
+        TableEngine x = Made.keyed(1);
         x.constrain(1, 0, 3, 0, 0);
         x.constrain(1, 1, 2, 0, 0);
         x.insert(1, 1, 1, 0, 0);
-        Due.is("the row that would refuse is erased too", eraseWhere(x, 0, 0, 1), 2);
+        Due.is("the row that would refuse is erased too", Made.eraseWhere(x, 0, 0, 1), 2);
 
-        x = keyed(1);
+        x = Made.keyed(1);
         x.constrain(1, 0, 0, 0, 0);
         x.constrain(1, 1, 3, 0, 0);
         x.constrain(2, 0, 2, 1, 0);
         x.insert(1, 5, 1, 0, 0);
         x.insert(2, 5, 0, 0, 0);
-        Due.is("a cascaded row is referred to", eraseWhere(x, 0, 0, 1), Due.VIOLATED);
+        Due.is("a cascaded row is referred to", Made.eraseWhere(x, 0, 0, 1), Due.VIOLATED);
         Due.is("rows 0", x.rows(0), 1);
         Due.is("rows 1", x.rows(1), 1);
         Due.is("rows 2", x.rows(2), 1);
     }
 
     private static void clears() {
-        TableEngine x = keyed(3);
+        TableEngine x = Made.keyed(3);
         x.constrain(1, 0, 4, 0, 0);
         x.constrain(0, 2, 4, 0, 0);
         x.insert(0, 4, 0, 2, 2);
@@ -181,65 +164,65 @@ public final class EraseTest {
         x.insert(1, 2, 2, 2, 0);
         x.insert(1, 3, 2, 2, 0);
         x.insert(1, 2, 5, 5, 0);
-        Due.is("just one row is erased", eraseWhere(x, 0, 0, 2), 1);
+        Due.is("just one row is erased", Made.eraseWhere(x, 0, 0, 2), 1);
         Due.table("cleared", x, 1, N, 2, 2, 3, 2, 2, N, 5, 5);
         Due.table("cleared in the same table", x, 0, 1, N, N, 3, N, N, 4, N, N, 5, N, 3);
     }
 
     private static void clearsNotWhereRequired() {
-        TableEngine x = keyed(2);
+        TableEngine x = Made.keyed(2);
         x.constrain(1, 1, 4, 0, 0);
         x.constrain(1, 1, 1, 0, 0);
         x.insert(1, 0, 1, 0, 0);
-        Due.is("REQUIRED", eraseWhere(x, 0, 0, 1), Due.VIOLATED);
-        Due.is("not referred to", eraseWhere(x, 0, 0, 2), 1);
+        Due.is("REQUIRED", Made.eraseWhere(x, 0, 0, 1), Due.VIOLATED);
+        Due.is("not referred to", Made.eraseWhere(x, 0, 0, 2), 1);
         Due.table("as before", x, 1, 0, 1, 0);
 
-        x = keyed(1);
+        x = Made.keyed(1);
         x.constrain(1, 1, 4, 0, 0);
         x.constrain(1, 1, 1, 0, 0);
         x.constrain(1, 2, 3, 0, 0);
         x.insert(1, 0, 1, 1, 0);
-        Due.is("REQUIRED, but the row is erased", eraseWhere(x, 0, 0, 1), 2);
+        Due.is("REQUIRED, but the row is erased", Made.eraseWhere(x, 0, 0, 1), 2);
     }
 
     private static void clearsNotWhatIsReferredTo() {
         for (int kind = 2; kind <= 4; kind++) {
-            TableEngine x = keyed(2);
+            TableEngine x = Made.keyed(2);
             x.constrain(1, 0, 0, 0, 0);
             x.constrain(1, 0, 4, 0, 0);
             x.constrain(2, 0, kind, 1, 0);
             x.insert(1, 1, 0, 0, 0);
             x.insert(1, 2, 0, 0, 0);
             x.insert(2, 2, 0, 0, 0);
-            Due.is("what would be cleared is referred to, kind " + kind, eraseWhere(x, 0, 0, 2), Due.VIOLATED);
+            Due.is("what would be cleared is referred to, kind " + kind, Made.eraseWhere(x, 0, 0, 2), Due.VIOLATED);
             Due.table("as before", x, 1, 1, 0, 0, 2, 0, 0);
-            Due.is("it isn't, kind " + kind, eraseWhere(x, 0, 0, 1), 1);
+            Due.is("it isn't, kind " + kind, Made.eraseWhere(x, 0, 0, 1), 1);
             Due.table("cleared", x, 1, N, 0, 0, 2, 0, 0);
         }
-        TableEngine x = keyed(1);
+        TableEngine x = Made.keyed(1);
         x.constrain(1, 0, 0, 0, 0);
         x.constrain(1, 0, 4, 0, 0);
         x.constrain(1, 1, 4, 1, 0);
         x.insert(1, 1, 1, 0, 0);
-        Due.is("the row itself refers to it", eraseWhere(x, 0, 0, 1), Due.VIOLATED);
+        Due.is("the row itself refers to it", Made.eraseWhere(x, 0, 0, 1), Due.VIOLATED);
     }
 
     private static void clearedTargetWhoseReferrerIsErased() {
-        TableEngine x = keyed(1);
+        TableEngine x = Made.keyed(1);
         x.constrain(1, 0, 0, 0, 0);
         x.constrain(1, 0, 4, 0, 0);
         x.constrain(2, 0, 2, 1, 0);
         x.constrain(2, 1, 3, 0, 0);
         x.insert(1, 1, 0, 0, 0);
         x.insert(2, 1, 1, 0, 0);
-        Due.is("what refers to the cleared int is erased too", eraseWhere(x, 0, 0, 1), 2);
+        Due.is("what refers to the cleared int is erased too", Made.eraseWhere(x, 0, 0, 1), 2);
         Due.table("cleared", x, 1, N, 0, 0);
         Due.is("erased", x.rows(2), 0);
     }
 
     private static void severalColumnsAtOnce() {
-        TableEngine x = keyed(2);
+        TableEngine x = Made.keyed(2);
         x.constrain(0, 1, 0, 0, 0);
         x.constrain(1, 0, 4, 0, 0);
         x.constrain(1, 1, 4, 0, 1);
@@ -247,20 +230,8 @@ public final class EraseTest {
         x.insert(0, 3, 9, 0, 0);
         x.insert(1, 3, 9, 3, 0);
         x.insert(1, 1, 9, 3, 0);
-        Due.is("one", eraseWhere(x, 0, 0, 3), 1);
+        Due.is("one", Made.eraseWhere(x, 0, 0, 3), 1);
         Due.table("all of them", x, 1, N, N, N, 1, N, N);
-    }
-
-    /** Inserts rows that are NULL but for the int v in that column. */
-    private static void put(TableEngine x, int column, int... ints) {
-        for (int v : ints) {
-            x.insert(column / 3, v, v, v, 7 - (1 << column % 3));
-        }
-    }
-
-    private static void refer(TableEngine x, int from, int kind, int to) {
-        x.constrain(to / 3, to % 3, 0, 0, 0);
-        Due.is("column " + from + " refers to " + to, x.constrain(from / 3, from % 3, kind, to / 3, to % 3), 0);
     }
 
     private static void everyPairOfColumns() {
@@ -269,9 +240,9 @@ public final class EraseTest {
             for (int to = 0; to < 9; to++) {
                 for (int kind = 2; from != to && kind <= 4; kind++) {
                     TableEngine x = new TableEngine();
-                    refer(x, from, kind, to);
-                    put(x, to, 1, 2);
-                    put(x, from, 1, 2);
+                    Made.refer(x, from, kind - 2, to);
+                    Made.put(x, to, 1, 2);
+                    Made.put(x, from, 1, 2);
                     x.source(to / 3);
                     x.condition(0, to % 3, 0, false, 2);
                     String what = "column " + from + " to " + to + ", kind " + kind;
@@ -294,11 +265,11 @@ public final class EraseTest {
                 continue;
             }
             TableEngine x = new TableEngine();
-            refer(x, middle, 4, first);
-            refer(x, last, 3, middle);
-            put(x, first, 1, 2, 3);
-            put(x, middle, 1, 2);
-            put(x, last, 2);
+            Made.refer(x, middle, 2, first);
+            Made.refer(x, last, 1, middle);
+            Made.put(x, first, 1, 2, 3);
+            Made.put(x, middle, 1, 2);
+            Made.put(x, last, 2);
             x.source(first / 3);
             x.condition(0, first % 3, 0, false, 2);
             String what = "columns " + last + ", " + middle + ", " + first;
@@ -312,21 +283,21 @@ public final class EraseTest {
 
     private static void fullTables() {
         // Table 0 keys 1 to 16, table 1 refers to them; beside what refers stand the same ints, which must stay.
-        TableEngine x = keyed(16);
+        TableEngine x = Made.keyed(16);
         x.constrain(1, 0, 4, 0, 0);
         x.constrain(1, 1, 4, 0, 0);
         for (int i = 1; i <= 16; i++) {
             x.insert(1, 17 - i, i, i, 0);
         }
-        Due.is("the first key", eraseWhere(x, 0, 0, 1), 1);
-        Due.is("the second key", eraseWhere(x, 0, 0, 2), 1);
+        Due.is("the first key", Made.eraseWhere(x, 0, 0, 1), 1);
+        Due.is("the second key", Made.eraseWhere(x, 0, 0, 2), 1);
         for (int i = 1; i <= 16; i++) {
             Due.is("column 0", x.value(1, i - 1, 0), 17 - i <= 2 ? N : 17 - i);
             Due.is("column 1", x.value(1, i - 1, 1), i <= 2 ? N : i);
             Due.is("column 2", x.value(1, i - 1, 2), i);
         }
         // What is cleared stands once more behind the last row of what could refer to it.
-        x = keyed(1);
+        x = Made.keyed(1);
         x.constrain(1, 1, 0, 0, 0);
         x.constrain(1, 1, 4, 0, 0);
         x.constrain(1, 0, 2, 1, 1);
@@ -334,10 +305,10 @@ public final class EraseTest {
         for (int i = 2; i <= 16; i++) {
             x.insert(1, 0, 0, i, 3);
         }
-        Due.is("none refers to what is cleared", eraseWhere(x, 0, 0, 1), 1);
+        Due.is("none refers to what is cleared", Made.eraseWhere(x, 0, 0, 1), 1);
         Due.is("cleared", x.value(1, 0, 1), N);
         // The same for what refers in the last of 16 rows.
-        x = keyed(1);
+        x = Made.keyed(1);
         x.constrain(1, 1, 0, 0, 0);
         x.constrain(1, 1, 4, 0, 0);
         x.constrain(2, 0, 2, 1, 1);
@@ -345,15 +316,15 @@ public final class EraseTest {
         for (int i = 1; i <= 16; i++) {
             x.insert(2, 1, 0, 0, i == 16 ? 0 : 1);
         }
-        Due.is("the last of 16 rows refers", eraseWhere(x, 0, 0, 1), Due.VIOLATED);
+        Due.is("the last of 16 rows refers", Made.eraseWhere(x, 0, 0, 1), Due.VIOLATED);
         x.wipe();
         x.source(2);
         Due.is("16 rows at once", x.erase(), 16);
-        Due.is("then none refers", eraseWhere(x, 0, 0, 1), 1);
+        Due.is("then none refers", Made.eraseWhere(x, 0, 0, 1), 1);
     }
 
     private static void violatedChangesNothing() {
-        TableEngine x = keyed(2);
+        TableEngine x = Made.keyed(2);
         x.constrain(1, 0, 4, 0, 0);
         x.constrain(1, 1, 3, 0, 0);
         x.constrain(2, 2, 2, 0, 0);
