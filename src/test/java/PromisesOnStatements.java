@@ -22,6 +22,7 @@ final class PromisesOnStatements {
         String again = "and with them again and again rows that refer to an erased one with action 1.";
         promise.say(again, PromisesOnStatements::againAndAgain);
         promise.say(again, PromisesOnStatements::roundAndRound);
+        promise.say("rows that refer to an erased one", PromisesOnStatements::nullRefersToNone);
         promise.say("BAD unless there is just one source.", PromisesOnStatements::eraseNeedsOneSource);
         String refused = "VIOLATED if a row that isn't erased refers to an erased one with action 0,";
         promise.say(refused, PromisesOnStatements::refused);
@@ -29,8 +30,12 @@ final class PromisesOnStatements {
         promise.say("or with action 2 and its column is REQUIRED;", PromisesOnStatements::clearedButRequired);
         promise.say("else what rows that aren't erased refer with to erased ones becomes NULL (action 2;",
             PromisesOnStatements::cleared);
-        promise.say("VIOLATED if a row that isn't erased refers to what would be cleared).",
-            PromisesOnStatements::clearedButReferredTo);
+        promise.say("else what rows that aren't erased refer with to erased ones becomes NULL (action 2;",
+            PromisesOnStatements::clearedInEveryColumn);
+        String kept = "VIOLATED if a row that isn't erased refers to what would be cleared).";
+        promise.say(kept, PromisesOnStatements::clearedButReferredTo);
+        promise.say(kept, PromisesOnStatements::referredToFromEveryColumn);
+        promise.say(kept, PromisesOnStatements::referredToFromEveryRow);
         promise.say("Answers how many rows were erased.", PromisesOnStatements::howManyErased);
     }
 
@@ -201,6 +206,21 @@ final class PromisesOnStatements {
         Due.is("it goes too", Made.eraseAll(x, 0), 1);
     }
 
+    private static void nullRefersToNone() {
+        for (int action = 0; action < 3; action++) {
+            for (int from = 0; from < 9; from++) {
+                int to = (from + 3 + action) % 9;
+                TableEngine x = new TableEngine();
+                Made.refer(x, from, action, to);
+                x.insert(from / 3, 0, 0, 0, 7);
+                x.insert(to / 3, 5, 5, 5, 1 << to % 3);
+                String what = "NULL in columns " + from + " and " + to + ", action " + action;
+                Due.is(what, Made.eraseAll(x, to / 3), 1);
+                Due.is(what, x.rows(from / 3), 1);
+            }
+        }
+    }
+
     private static void eraseNeedsOneSource() {
         TableEngine x = Made.rows(0, 2);
         Due.is("none", x.erase(), Due.BAD);
@@ -319,6 +339,64 @@ final class PromisesOnStatements {
         x.insert(2, 1, 1, 0, 0);
         Due.is("what refers is erased", Made.eraseAll(x, 0), 2);
         Due.is("rows", Made.told(x), "|| NULL NULL NULL | || || ");
+    }
+
+    private static void clearedInEveryColumn() {
+        for (int i = 0; i < 81; i++) {
+            int from = i / 9;
+            int to = i % 9;
+            if (from != to) {
+                TableEngine x = new TableEngine();
+                Made.refer(x, from, 2, to);
+                Made.put(x, to, 1, 2, 3);
+                Made.put(x, from, 3, 2, 1);
+                int before = x.rows(from / 3);
+                String what = "column " + from + " to " + to;
+                Due.is(what, Made.eraseWhere(x, to / 3, to % 3, 2), 1);
+                int rows = from / 3 == to / 3 ? before - 1 : before;
+                Due.is(what + ", rows", x.rows(from / 3), rows);
+                Due.is(what + ", 3", x.value(from / 3, rows - 3, from % 3), 3);
+                Due.is(what + ", 2", x.value(from / 3, rows - 2, from % 3), N);
+                Due.is(what + ", 1", x.value(from / 3, rows - 1, from % 3), 1);
+            }
+        }
+    }
+
+    private static void referredToFromEveryColumn() {
+        for (int i = 0; i < 81; i++) {
+            int middle = i / 9;
+            int last = i % 9;
+            int first = (middle + 3) % 9;
+            if (last != middle && last != first) {
+                TableEngine x = new TableEngine();
+                Made.refer(x, middle, 2, first);
+                Made.refer(x, last, 1, middle);
+                Made.put(x, first, 1, 2);
+                Made.put(x, middle, 1, 2);
+                Made.put(x, last, 2);
+                String before = Made.told(x);
+                String what = "columns " + last + ", " + middle + ", " + first;
+                Due.is(what, Made.eraseWhere(x, first / 3, first % 3, 2), Due.VIOLATED);
+                Due.is(what, Made.told(x), before);
+                Due.is(what + ", not referred to", Made.eraseWhere(x, first / 3, first % 3, 1), 1);
+            }
+        }
+    }
+
+    private static void referredToFromEveryRow() {
+        for (int i = 0; i < 16; i++) {
+            TableEngine x = Made.keyed(1);
+            Made.refer(x, 4, 2, 0);
+            Made.refer(x, 8, 0, 4);
+            Made.put(x, 4, 1);
+            for (int row = 0; row < 16; row++) {
+                x.insert(2, 1, 1, 1, row == i ? 3 : 4);
+            }
+            Due.is("row " + i, Made.eraseAll(x, 0), Due.VIOLATED);
+            Due.is("the row that refers goes", Made.eraseWhere(x, 2, 2, 1), 1);
+            Due.is("1 stands just beside what refers", Made.eraseAll(x, 0), 1);
+            Due.is("cleared", x.value(1, 0, 1), N);
+        }
     }
 
     private static void howManyErased() {
@@ -481,22 +559,27 @@ final class PromisesOnStatements {
     }
 
     private static void changeViolatesWhatRefers() {
-        for (int from = 1; from < 9; from++) {
-            for (int action = 0; action < 3; action++) {
-                TableEngine x = Made.keyed(3);
-                Made.refer(x, from, action, 0);
+        for (int i = 0; i < 81; i++) {
+            int from = i / 9;
+            int to = i % 9;
+            if (from != to) {
+                TableEngine x = new TableEngine();
+                Made.refer(x, from, i % 3, to);
+                Made.put(x, to, 1, 2, 3);
                 Made.put(x, from, 2);
                 String before = Made.told(x);
-                Made.where(x, 0, 0, 2);
-                Due.is("another int, column " + from, x.change(0, 0, 9), Due.VIOLATED);
-                Due.is("NULL, column " + from, x.change(0, 1, 0), Due.VIOLATED);
-                Due.is("one more, column " + from, x.change(0, 2, 5), Due.VIOLATED);
-                Due.is("rows", Made.told(x), before);
-                Due.is("the same int, column " + from, x.change(0, 0, 2), 1);
-                Due.is("0 more, column " + from, x.change(0, 2, 0), 1);
-                Made.only(x, 0);
-                x.condition(0, 0, 1, false, 2);
-                Due.is("those that it doesn't refer to, column " + from, x.change(0, 1, 0), 2);
+                String what = "column " + from + " to " + to;
+                int c = to % 3;
+                Made.where(x, to / 3, c, 2);
+                Due.is(what + ", another int", x.change(c, 0, 9), Due.VIOLATED);
+                Due.is(what + ", NULL", x.change(c, 1, 0), Due.VIOLATED);
+                Due.is(what + ", 5 more", x.change(c, 2, 5), Due.VIOLATED);
+                Due.is(what + ", rows", Made.told(x), before);
+                Due.is(what + ", the same int", x.change(c, 0, 2), 1);
+                Due.is(what + ", 0 more", x.change(c, 2, 0), 1);
+                Made.only(x, to / 3);
+                x.condition(0, c, 1, false, 2);
+                Due.is(what + ", those that it doesn't refer to", x.change(c, 1, 0), 2);
             }
         }
     }

@@ -16,7 +16,9 @@ final class PromisesOnTransactions {
         String back = "or rows and constraints are as at its beginning.";
         promise.say(back, PromisesOnTransactions::rowsAsAtItsBeginning);
         promise.say(back, PromisesOnTransactions::fullAndEmptyTables);
+        promise.say(back, PromisesOnTransactions::everyCell);
         promise.say(back, PromisesOnTransactions::constraintsAsAtItsBeginning);
+        promise.say(back, PromisesOnTransactions::constraintsOfEveryColumn);
         promise.say(back, PromisesOnTransactions::draftAndResultAreNeither);
         promise.say("False if none is open.", PromisesOnTransactions::noneIsOpen);
     }
@@ -101,6 +103,48 @@ final class PromisesOnTransactions {
         Due.is("rows", Made.told(x), before);
         Due.is("full", x.insert(0, 1, 1, 1, 0), Due.FULL);
         Due.is("empty", x.insert(1, 1, 1, 1, 0), 1);
+    }
+
+    private static void everyCell() {
+        TableEngine x = new TableEngine();
+        for (int i = 0; i < 48; i++) {
+            x.insert(i % 3, 3 * i, 3 * i + 1, 3 * i + 2, 0);
+        }
+        x.begin();
+        for (int column = 0; column < 9; column++) {
+            Made.only(x, column / 3);
+            Due.is("column " + column, x.change(column % 3, 2, 1000), 16);
+        }
+        x.end(false);
+        for (int i = 0; i < 144; i++) {
+            Due.is("a cell of table " + i / 3 % 3, x.value(i / 3 % 3, i / 9, i % 3), i);
+        }
+    }
+
+    private static void constraintsOfEveryColumn() {
+        for (int column = 0; column < 9; column++) {
+            TableEngine x = new TableEngine();
+            int t = column / 3;
+            int c = column % 3;
+            int to = (column + 3) % 9;
+            Made.unique(x, column, to);
+            Made.required(x, column);
+            Made.refer(x, column, 0, to);
+            Made.put(x, to, 1, 2);
+            Made.put(x, column, 1);
+            x.begin();
+            Made.refer(x, column, 1, to);
+            x.constrain(t, c, 5, 0, 0);
+            x.constrain(to / 3, to % 3, 5, 0, 0);
+            Due.is("column " + column + " is free", x.insert(t, 9, 9, 9, 7), 2);
+            x.end(false);
+            Due.is("UNIQUE, column " + column, x.insert(t, 1, 1, 1, 7 - (1 << c)), Due.VIOLATED);
+            Due.is("REQUIRED, column " + column, x.insert(t, 2, 2, 2, 7), Due.VIOLATED);
+            Due.is("REFERENCE, column " + column, x.insert(t, 9, 9, 9, 7 - (1 << c)), Due.VIOLATED);
+            Due.is("to column " + to, x.constrain(to / 3, to % 3, 5, 0, 0), Due.BAD);
+            Due.is("action 0, column " + column, Made.eraseWhere(x, to / 3, to % 3, 1), Due.VIOLATED);
+            Due.is("it fits, column " + column, x.insert(t, 2, 2, 2, 7 - (1 << c)), 2);
+        }
     }
 
     private static void constraintsAsAtItsBeginning() {

@@ -30,6 +30,7 @@ final class TermsOnTheResult {
         terms.say("Then they are ordered by the KEYS (the first one first;", TermsOnTheResult::firstKeyFirst);
         terms.say("NULL comes before all ints, behind them where the key falls;", TermsOnTheResult::nullInOrder);
         terms.say("where all keys are the same the order stays),", TermsOnTheResult::orderStays);
+        terms.say("Then they are ordered by the KEYS", TermsOnTheResult::sixtyOrdered);
         String limit = "and just the first LIMIT of them stay.";
         terms.say(limit, TermsOnTheResult::limits);
         terms.say(limit, TermsOnTheResult::limitOfOrdered);
@@ -115,6 +116,13 @@ final class TermsOnTheResult {
             x.source(0);
             x.output(6, 2, 0);
             Due.result("different ones " + i + ", of three sources", x, 2, due[i], due[i]);
+        }
+        for (int column = 0; column < 9; column++) {
+            TableEngine x = new TableEngine();
+            Made.put(x, column, 4, 5, 4, 6, 5);
+            x.source(column / 3);
+            x.output(6, 0, column % 3);
+            Due.result("different ones in column " + column, x, 1, 3);
         }
         TableEngine x = of(1, 1, 2, 3, 3, 3);
         x.source(0);
@@ -323,6 +331,23 @@ final class TermsOnTheResult {
         ordered(1, false, 0, false, 10, 20, 11, 21, 12, 22);
         ordered(1, true, 0, false, 12, 22, 11, 21, 10, 20);
         ordered(0, true, 0, false, 21, 22, 20, 12, 11, 10);
+    }
+
+    private static void sixtyOrdered() {
+        TableEngine x = sixtyAnd(0);
+        int[] columns = {0, 1, 3, 4};
+        for (int column : columns) {
+            x.output(0, column / 3, column % 3);
+        }
+        x.key(2, false);
+        x.key(0, true);
+        Due.is("60 rows of four outputs", x.run(), 60);
+        for (int i = 0; i < 60; i++) {
+            Due.is("row " + i + ", output 0", x.cell(i, 0), 14 - i % 15);
+            Due.is("row " + i + ", output 1", x.cell(i, 1), 4);
+            Due.is("row " + i + ", output 2", x.cell(i, 2), i / 15);
+            Due.is("row " + i + ", output 3", x.cell(i, 3), i / 15);
+        }
     }
 
     private static void nullInOrder() {
