@@ -14,6 +14,7 @@ public final class EraseTest {
         clearsNotWhereRequired();
         clearsNotWhatIsReferredTo();
         clearedTargetWhoseReferrerIsErased();
+        erasedRowIsNotClearedFirst();
         severalColumnsAtOnce();
         violatedChangesNothing();
         everyPairOfColumns();
@@ -219,6 +220,24 @@ public final class EraseTest {
         Due.is("what refers to the cleared int is erased too", Made.eraseWhere(x, 0, 0, 1), 2);
         Due.table("cleared", x, 1, N, 0, 0);
         Due.is("erased", x.rows(2), 0);
+    }
+
+    /** A row that one column would clear and another one erases is erased with the ints that it has. */
+    private static void erasedRowIsNotClearedFirst() {
+        int[] answers = {Due.VIOLATED, 3, 2};
+        for (int action = 0; action <= 2; action++) {
+            TableEngine x = Made.keyed(1);
+            Made.refer(x, 3, 2, 0);
+            Made.required(x, 3);
+            Made.refer(x, 4, 1, 0);
+            Made.refer(x, 6, action, 3);
+            x.insert(1, 1, 1, 0, 0);
+            x.insert(2, 1, 5, 5, 0);
+            Due.is("referred to with action " + action, Made.eraseWhere(x, 0, 0, 1), answers[action]);
+            Due.is("rows of table 1", x.rows(1), action == 0 ? 1 : 0);
+            Due.is("rows of table 2", x.rows(2), action == 1 ? 0 : 1);
+            Due.is("what referred to it", x.value(2, 0, 0), action == 0 ? 1 : N);
+        }
     }
 
     private static void severalColumnsAtOnce() {

@@ -1,7 +1,10 @@
+import java.io.IOException;
 import java.lang.reflect.Constructor;
 import java.lang.reflect.Field;
 import java.lang.reflect.Method;
 import java.lang.reflect.Modifier;
+import java.nio.file.Files;
+import java.nio.file.Path;
 import java.util.Arrays;
 import java.util.HashSet;
 import java.util.Set;
@@ -18,11 +21,29 @@ public final class FaceTest {
     private static final String[] CONSTANTS = {
         "int OK", "int BAD", "int FULL", "int VIOLATED", "int TOO_MANY", "long NULL"};
 
-    public static void main(String[] args) {
+    private static final Path DOCUMENT = Path.of("..", "shared", "DOC.md");
+    private static final Path PROGRAM = Path.of("src", "main", "java", "TableEngine.java");
+
+    public static void main(String[] args) throws IOException {
         theClass();
         methods();
         fields();
+        asInTheDocument();
         Due.end("FaceTest");
+    }
+
+    /** Every line of the document's face stands in the class as it is, but for the body in place of a semicolon. */
+    private static void asInTheDocument() throws IOException {
+        String program = Files.readString(PROGRAM);
+        int lines = 0;
+        for (String line : Files.readAllLines(DOCUMENT)) {
+            if (line.startsWith("public final class") || line.startsWith("    public ")) {
+                String due = line.replaceFirst("\\);$", ") {");
+                Due.is("as in the document: " + due, program.contains("\n" + due + "\n"), true);
+                lines++;
+            }
+        }
+        Due.is("lines of the face", lines, 1 + 2 + 1 + FACE.length);
     }
 
     private static void theClass() {
