@@ -15,6 +15,7 @@ public final class EraseTest {
         clearsNotWhatIsReferredTo();
         clearedTargetWhoseReferrerIsErased();
         erasedRowIsNotClearedFirst();
+        rowThatHoldsIsNotClearedFirst();
         severalColumnsAtOnce();
         violatedChangesNothing();
         everyPairOfColumns();
@@ -237,6 +238,26 @@ public final class EraseTest {
             Due.is("rows of table 1", x.rows(1), action == 0 ? 1 : 0);
             Due.is("rows of table 2", x.rows(2), action == 1 ? 0 : 1);
             Due.is("what referred to it", x.value(2, 0, 0), action == 0 ? 1 : N);
+        }
+    }
+
+    /** The same for rows that hold themselves and refer to each other. */
+    private static void rowThatHoldsIsNotClearedFirst() {
+        int[] answers = {Due.VIOLATED, 4, 2};
+        for (int action = 0; action <= 2; action++) {
+            TableEngine x = new TableEngine();
+            x.insert(0, 1, 2, 0, 0);
+            x.insert(0, 2, 1, 0, 0);
+            x.insert(2, 2, 5, 5, 0);
+            x.insert(2, 1, 6, 6, 0);
+            Made.refer(x, 1, 2, 0);
+            Made.required(x, 1);
+            Made.refer(x, 6, action, 1);
+            Due.is("referred to with action " + action, Made.eraseAll(x, 0), answers[action]);
+            Due.is("rows of table 0", x.rows(0), action == 0 ? 2 : 0);
+            Due.is("rows of table 2", x.rows(2), action == 1 ? 0 : 2);
+            Due.is("what referred to the first", x.value(2, 0, 0), action == 0 ? 2 : N);
+            Due.is("what referred to the second", x.value(2, 1, 0), action == 0 ? 1 : N);
         }
     }
 
